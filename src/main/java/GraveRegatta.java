@@ -1297,7 +1297,7 @@ public final class GraveRegatta {
                 return;
             }
             if (!isFrost && !isMoored) {
-                floatOn();
+                move(driftAlong(0), driftAlong(1));
             }
             hours++;
             touched |= sides();
@@ -1921,14 +1921,21 @@ public final class GraveRegatta {
 
         /** From the ways in some graves to those in these and one more (or, at NONE, in no more). */
         private static void extend(int[] from, int[] to, Rows dead, int grave) {
-            for (int set = 0; set < setsOf(dead); set++) {
-                int ways = from[set];
-                for (int d = 0; d < dead.size && grave != NONE; d++) {
-                    if ((set >> d & 1) == 1 && (dead.number(d, 0) >> grave & 1) == 1) {
-                        ways += from[set ^ 1 << d];
-                    }
+            System.arraycopy(from, 0, to, 0, SETS);
+            for (int d = 0; d < dead.size && d < GRAVES && grave != NONE; d++) {
+                if ((dead.number(d, 0) >> grave & 1) == 1) {
+                    lay(from, to, d);
                 }
-                to[set] = ways;
+            }
+        }
+
+        /** The ways in which one of the DEAD lies in the further grave. */
+        private static void lay(int[] from, int[] to, int one) {
+            int bit = 1 << one;
+            for (int set = bit; set < SETS; set++) {
+                if ((set & bit) != 0) {
+                    to[set] += from[set ^ bit];
+                }
             }
         }
 

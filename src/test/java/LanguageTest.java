@@ -46,6 +46,12 @@ final class LanguageTest {
                 Bench.due("private " + method.getName() + " has a public name", isFaceName, false);
             }
         }
+        for (Class<?> inside : GraveRegatta.class.getDeclaredClasses()) {
+            for (Method method : inside.getDeclaredMethods()) {
+                boolean isFaceName = Arrays.stream(FACE).anyMatch(one -> one.startsWith(method.getName() + "("));
+                Bench.due(inside + "'s " + method.getName() + " has a public name", isFaceName, false);
+            }
+        }
         methods.sort(null);
         Bench.due("the face's methods " + methods, methods.equals(Arrays.asList(FACE)), true);
         Bench.due("final class", Modifier.isFinal(GraveRegatta.class.getModifiers()), true);

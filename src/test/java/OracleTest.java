@@ -1,4 +1,5 @@
 import java.util.ArrayList;
+import java.util.Arrays;
 import java.util.List;
 import java.util.Random;
 import java.util.Set;
@@ -22,6 +23,21 @@ final class OracleTest {
             }
             meeting(random, "meeting " + seed);
         }
+    }
+
+    /** One object for all, so that what an earlier text left behind would show. */
+    private static final GraveRegatta REGATTA = new GraveRegatta();
+
+    private static GraveRegatta told(String... texts) {
+        int[] next = new int[5];
+        for (String text : texts) {
+            int colon = text.indexOf(':');
+            int sort = Arrays.asList("lake", "day", "night", "fog", "law").indexOf(text.substring(0, colon));
+            int at = next[sort]++;
+            Bench.due("telling " + text, Bench.tell(REGATTA, sort, REGATTA.count(sort) > at ? at : NONE,
+                    text.substring(colon + 1)), at);
+        }
+        return REGATTA;
     }
 
     private static int from(Random random, int least, int most) {
@@ -135,7 +151,7 @@ final class OracleTest {
         List<int[]> day = day(random, water);
         List<int[]> law = law(random);
         String note = name + " <" + water.text() + "> <" + text(day, DEEDS) + ">";
-        GraveRegatta regatta = Bench.told("lake:" + water.text(), "day:" + text(day, DEEDS), "law:" + text(law, TERMS));
+        GraveRegatta regatta = told("lake:" + water.text(), "day:" + text(day, DEEDS), "law:" + text(law, TERMS));
         tellings(regatta, water, day, law, note);
         int stop = Oracle.stop(water, day);
         Bench.due(note + " stop", regatta.stop(0, 0), stop);
@@ -234,7 +250,7 @@ final class OracleTest {
         Oracle.Water water = lake(random, random.nextInt(8) == 0 ? 4 : 3);
         water.stiff = from(random, 0, 12);
         String note = name + " <" + water.text() + ">";
-        GraveRegatta regatta = Bench.told("lake:" + water.text());
+        GraveRegatta regatta = told("lake:" + water.text());
         int[][] costs = Oracle.costs(water, 0);
         for (int drift = 0; drift < 9; drift++) {
             Bench.due(note + " cost " + drift, regatta.cost(0, drift / 3 - 1, drift % 3 - 1), costs[drift / 3][drift % 3]);
@@ -296,7 +312,7 @@ final class OracleTest {
         StringBuilder text = new StringBuilder();
         Oracle.lines(text, "lay", night);
         String note = name + " <" + water.text() + "> <" + text + ">";
-        GraveRegatta regatta = Bench.told("lake:" + water.text(), "night:" + text);
+        GraveRegatta regatta = told("lake:" + water.text(), "night:" + text);
         Bench.due(note + " sights", regatta.sight(0, NONE, 0), night.size());
         for (int k = 0; k < 9; k++) {
             Bench.due(note + " sight x", regatta.sight(0, k, 0), k < night.size() ? night.get(k)[0] : -2);
@@ -349,7 +365,7 @@ final class OracleTest {
         StringBuilder text = new StringBuilder();
         Oracle.lines(text, "dead", fog);
         String note = name + " <" + text + ">";
-        GraveRegatta regatta = Bench.told("fog:" + text);
+        GraveRegatta regatta = told("fog:" + text);
         List<int[]> ways = Oracle.burials(fog);
         Bench.due(note + " ways", regatta.lies(0, 0), ways.size());
         if (ways.size() < 300) {
@@ -376,7 +392,7 @@ final class OracleTest {
     private static void leaks(Random random, String name) {
         Oracle.Water water = lake(random, 2);
         String note = name + " <" + water.text() + ">";
-        GraveRegatta regatta = Bench.told("lake:" + water.text());
+        GraveRegatta regatta = told("lake:" + water.text());
         int hours = from(random, 1, 6);
         int[] want = water.leaks.isEmpty() ? null : Oracle.bail(water.leaks, hours);
         Bench.due(note + " bail " + hours, regatta.bail(0, hours, NONE), want == null ? NONE : want[hours]);
@@ -388,7 +404,7 @@ final class OracleTest {
     private static void meeting(Random random, String name) {
         Oracle.Water water = lake(random, 1);
         Oracle.Water other = lake(random, 1);
-        GraveRegatta regatta = Bench.told("lake:" + water.text(), "lake:" + other.text());
+        GraveRegatta regatta = told("lake:" + water.text(), "lake:" + other.text());
         String note = name + " <" + water.text() + "> <" + other.text() + ">";
         for (int k = 0; k < 8; k++) {
             Oracle.Water a = (k & 1) == 0 ? water : other;
