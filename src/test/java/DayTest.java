@@ -216,6 +216,9 @@ final class DayTest {
         Bench.due("12: wake", x.goes(0, 0, 1, 0), 12);
         Bench.due("12: wake at the shore", x.goes(0, 0, 3, 0), 1);
         Bench.due("12: not in 60", x.goes(0, 0, 0, 1), NONE);
+        String leaky = "lake:raft 2 1;leak 0 1;float 99;stiff ";
+        Bench.due("12: wake in 60", Bench.told(leaky + "58;", "day:").goes(0, 0, 0, 0), 60);
+        Bench.due("12: wake not in 60", Bench.told(leaky + "59;", "day:").goes(0, 0, 0, 0), NONE);
         Bench.due("12: in 60", x.goes(1, 0, 0, 1), 60);
     }
 

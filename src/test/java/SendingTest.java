@@ -29,6 +29,12 @@ final class SendingTest {
         Bench.due("14: no such lake", x.cost(2, 0, 0), NONE);
         // both together tip it where neither does; a wind that the lake's wreaths would catch does not count
         x = Bench.told("lake:raft 2 2;mourner 3 2 0;mourner 3 5 1;wreath 9;leak 0 9;");
+        for (int wrong : new int[] {-2, 2, 3, Integer.MIN_VALUE}) {
+            for (int other = -1; other <= 1; other++) {
+                Bench.due("14: other numbers", x.cost(0, wrong, other), NONE);
+                Bench.due("14: other numbers", x.cost(0, other, wrong), NONE);
+            }
+        }
         Bench.due("14: together", x.cost(0, 1, 0), 7);
         Bench.due("14: together", x.cost(0, -1, 1), 7);
         Bench.due("14: a grave held even", Bench.told("lake:raft 2 1;grave 0 6;mourner 1 3 0;mourner 6 9 0;").cost(0, 0, 0), 3);

@@ -232,6 +232,12 @@ final class TellingTest {
         Bench.dueFault(LAKE, "raft\t2 2;", 1, 4);
         Bench.dueFault(LAKE, "raft 9 9;raft 2 2", 1, 17);
         Bench.dueFault(LAKE, "grave 1 1;hours 2;", 1, 10);
+        Bench.dueFault(DAY, "calmz;", 1, 0);
+        Bench.dueFault(DAY, "calma;", 1, 0);
+        Bench.dueFault(DAY, "calm{;", 1, 4);
+        Bench.dueFault(DAY, "calm`;", 1, 4);
+        Bench.dueFault(DAY, "hours 1/;", 1, 7);
+        Bench.dueFault(DAY, "hours 1:;", 1, 7);
         Bench.dueFault(DAY, "lay 1 1;", 1, 0);
         Bench.dueFault(DAY, "moor 1;", 1, 5);
         Bench.dueFault(NIGHT, "lay 1 1;dead 1;", 1, 8);
