@@ -1990,8 +1990,8 @@ public final class GraveRegatta {
         /** Learns the ways for a set of opened graves, those for the set before it being known. */
         private void openThese(Rows dead, int open) {
             // the last graves come first, as bits above the lowest one of a set are as in the set before
-            int changed = open == 0 ? GRAVES - 1 : Integer.numberOfTrailingZeros(open);
-            for (int grave = Math.min(changed, GRAVES - 1); grave >= 0; grave--) {
+            int changed = Math.min(Integer.numberOfTrailingZeros(open), GRAVES - 1);
+            for (int grave = changed; grave >= 0; grave--) {
                 int row = GRAVES - 1 - grave;
                 boolean isOpen = (open >> grave & 1) == 1;
                 extend(opened[row], opened[row + 1], dead, isOpen ? grave : NONE);

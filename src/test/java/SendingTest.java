@@ -86,6 +86,7 @@ final class SendingTest {
         Bench.due("16: touched at first", x.sends(0, 1), 0);
         Bench.due("16: nobody is wanted", x.sends(0, 2), 1);
         Bench.due("16: it goes by itself", x.sends(1, 0), 2);
+        Bench.due("16: from the first cell", Bench.told("lake:raft 2 2;grave 3 6;lake 4 4;brothers 1 2;").sends(0, 0), 2);
         Bench.due("16: another what", x.sends(0, 3), NONE);
         Bench.due("16: another what", x.sends(0, -1), NONE);
         Bench.due("16: no such lake", x.sends(2, 0), NONE);
