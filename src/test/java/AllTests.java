@@ -11,6 +11,12 @@ public final class AllTests {
         OracleTest.run();
         TextFuzzTest.run();
         LanguageTest.run();
+        TextEdgeTest.run();
+        TellEdgeTest.run();
+        DayEdgeTest.run();
+        SendEdgeTest.run();
+        RiddleEdgeTest.run();
+        Document.check();
         System.out.println(Bench.passed + " passed, " + Bench.failed + " failed");
         if (Bench.failed != 0) {
             System.exit(1);

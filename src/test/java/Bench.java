@@ -4,6 +4,8 @@ import java.util.Arrays;
 final class Bench {
     static int passed;
     static int failed;
+    /** What the tests that run are about: shown with what fails. */
+    static String about = "";
 
     private Bench() {
     }
@@ -15,7 +17,7 @@ final class Bench {
         }
         failed++;
         if (failed <= 60) {
-            System.out.println(what + ": answered " + got + ", due is " + want);
+            System.out.println(about + what + ": answered " + got + ", due is " + want);
         }
     }
 

@@ -1,5 +1,4 @@
 import java.util.ArrayList;
-import java.util.Arrays;
 import java.util.List;
 import java.util.Random;
 import java.util.Set;
@@ -25,19 +24,11 @@ final class OracleTest {
         }
     }
 
-    /** One object for all, so that what an earlier text left behind would show. */
-    private static final GraveRegatta REGATTA = new GraveRegatta();
+    private static final Retold RETOLD = new Retold();
 
-    private static GraveRegatta told(String... texts) {
-        int[] next = new int[5];
-        for (String text : texts) {
-            int colon = text.indexOf(':');
-            int sort = Arrays.asList("lake", "day", "night", "fog", "law").indexOf(text.substring(0, colon));
-            int at = next[sort]++;
-            Bench.due("telling " + text, Bench.tell(REGATTA, sort, REGATTA.count(sort) > at ? at : NONE,
-                    text.substring(colon + 1)), at);
-        }
-        return REGATTA;
+    private static Retold told(String... texts) {
+        RETOLD.tell(texts);
+        return RETOLD;
     }
 
     private static int from(Random random, int least, int most) {
@@ -151,26 +142,26 @@ final class OracleTest {
         List<int[]> day = day(random, water);
         List<int[]> law = law(random);
         String note = name + " <" + water.text() + "> <" + text(day, DEEDS) + ">";
-        GraveRegatta regatta = told("lake:" + water.text(), "day:" + text(day, DEEDS), "law:" + text(law, TERMS));
+        Retold regatta = told("lake:" + water.text(), "day:" + text(day, DEEDS), "law:" + text(law, TERMS));
         tellings(regatta, water, day, law, note);
         int stop = Oracle.stop(water, day);
-        Bench.due(note + " stop", regatta.stop(0, 0), stop);
+        Bench.due(note + " stop", regatta.now().stop(0, 0), stop);
         for (int n = -1; n <= day.size() + 1; n++) {
             Oracle.Boat boat = Oracle.boat(water, day, n);
             String at = note + " at " + n;
             if (boat == null) {
-                Bench.due(at + " state", regatta.state(0, 0, n, 0), -2);
-                Bench.due(at + " list", regatta.list(0, 0, n, 0), -1000000);
-                Bench.due(at + " drift", regatta.drift(0, 0, n, 0), -2);
-                Bench.due(at + " goes", regatta.goes(0, 0, n, 0), -2);
-                Bench.due(at + " owed", regatta.owed(0, 0, n, 0), NONE);
+                Bench.due(at + " state", regatta.now().state(0, 0, n, 0), -2);
+                Bench.due(at + " list", regatta.now().list(0, 0, n, 0), -1000000);
+                Bench.due(at + " drift", regatta.now().drift(0, 0, n, 0), -2);
+                Bench.due(at + " goes", regatta.now().goes(0, 0, n, 0), -2);
+                Bench.due(at + " owed", regatta.now().owed(0, 0, n, 0), NONE);
             } else if (random.nextInt(3) == 0 || n == stop) {
                 state(regatta, boat, n, at);
-                Bench.due(at + " owed", regatta.owed(0, 0, n, 0), Oracle.owed(boat, law));
-                Bench.due(at + " wake", regatta.goes(0, 0, n, 0), Oracle.wake(Oracle.boat(water, day, n)));
-                Bench.due(at + " hold", regatta.goes(0, 0, n, 1), Oracle.hold(Oracle.boat(water, day, n)));
+                Bench.due(at + " owed", regatta.now().owed(0, 0, n, 0), Oracle.owed(boat, law));
+                Bench.due(at + " wake", regatta.now().goes(0, 0, n, 0), Oracle.wake(Oracle.boat(water, day, n)));
+                Bench.due(at + " hold", regatta.now().goes(0, 0, n, 1), Oracle.hold(Oracle.boat(water, day, n)));
                 for (int w = 0; w < 4; w++) {
-                    Bench.due(at + " turn " + w, regatta.goes(0, 0, n, 10 + w),
+                    Bench.due(at + " turn " + w, regatta.now().goes(0, 0, n, 10 + w),
                             Oracle.turn(Oracle.boat(water, day, n), w));
                 }
             }
@@ -180,18 +171,18 @@ final class OracleTest {
             Oracle.Boat boat = Oracle.drawn(water, seed, n);
             int[] want = {boat.x, boat.y, boat.touchedBits(), boat.aground, boat.sunk ? 1 : 0};
             for (int what = 0; what < 5; what++) {
-                Bench.due(note + " drawn " + seed + " " + n + " " + what, regatta.drawn(0, seed, n, what), want[what]);
+                Bench.due(note + " drawn " + seed + " " + n + " " + what, regatta.now().drawn(0, seed, n, what), want[what]);
             }
         }
-        Bench.due(note + " row", regatta.trim(0, 0), Oracle.heaviest(water, true));
-        Bench.due(note + " column", regatta.trim(0, 1), Oracle.heaviest(water, false));
-        Bench.due(note + " keel", regatta.trim(0, 2), Oracle.keel(water));
+        Bench.due(note + " row", regatta.now().trim(0, 0), Oracle.heaviest(water, true));
+        Bench.due(note + " column", regatta.now().trim(0, 1), Oracle.heaviest(water, false));
+        Bench.due(note + " keel", regatta.now().trim(0, 2), Oracle.keel(water));
         for (int m = 0; m < 5; m++) {
-            Bench.due(note + " trim " + m, regatta.trim(0, 10 + m), m < water.mourners.size() ? Oracle.trim(water, m) : NONE);
+            Bench.due(note + " trim " + m, regatta.now().trim(0, 10 + m), m < water.mourners.size() ? Oracle.trim(water, m) : NONE);
         }
     }
 
-    private static void state(GraveRegatta regatta, Oracle.Boat boat, int n, String at) {
+    private static void state(Retold regatta, Oracle.Boat boat, int n, String at) {
         int[] want = {boat.x, boat.y, boat.hours, boat.aground, boat.touchedBits(), boat.allWater(), boat.sunk ? 1 : 0,
             boat.frost ? 1 : 0, boat.moored ? 1 : 0, boat.way, boat.force};
         for (int what = -1; what <= 50; what++) {
@@ -203,15 +194,15 @@ final class OracleTest {
             } else if (what >= 30 && what < 30 + boat.own.columns * boat.own.rows) {
                 due = boat.water[what - 30];
             }
-            Bench.due(at + " state " + what, regatta.state(0, 0, n, what), due);
+            Bench.due(at + " state " + what, regatta.now().state(0, 0, n, what), due);
         }
         for (int axis = 0; axis < 2; axis++) {
-            Bench.due(at + " list " + axis, regatta.list(0, 0, n, axis), boat.list(axis));
-            Bench.due(at + " drift " + axis, regatta.drift(0, 0, n, axis), boat.drift(axis));
+            Bench.due(at + " list " + axis, regatta.now().list(0, 0, n, axis), boat.list(axis));
+            Bench.due(at + " drift " + axis, regatta.now().drift(0, 0, n, axis), boat.drift(axis));
         }
     }
 
-    private static void tellings(GraveRegatta regatta, Oracle.Water water, List<int[]> day, List<int[]> law, String note) {
+    private static void tellings(Retold regatta, Oracle.Water water, List<int[]> day, List<int[]> law, String note) {
         int[] basics = {water.width, water.height, water.columns, water.rows, water.x, water.y, water.stiff, water.drag,
             water.buoyancy, water.brother, water.otherBrother, water.rocks.size(), water.graves.size(),
             water.wreaths.size(), water.mourners.size(), water.leaks.size()};
@@ -230,14 +221,14 @@ final class OracleTest {
             } else if (what >= 140 && what < 160) {
                 due = number(water.leaks, what % 10, what / 10 - 14);
             }
-            Bench.due(note + " lake " + what, regatta.lake(0, what), due);
+            Bench.due(note + " lake " + what, regatta.now().lake(0, what), due);
         }
-        Bench.due(note + " deeds", regatta.deed(0, NONE, 0), day.size());
-        Bench.due(note + " terms", regatta.term(0, NONE, 0), law.size());
+        Bench.due(note + " deeds", regatta.now().deed(0, NONE, 0), day.size());
+        Bench.due(note + " terms", regatta.now().term(0, NONE, 0), law.size());
         for (int k = 0; k <= 40; k++) {
             for (int what = 0; what < 3; what++) {
-                Bench.due(note + " deed " + k, regatta.deed(0, k, what), k < day.size() ? day.get(k)[what] : -2);
-                Bench.due(note + " term " + k, regatta.term(0, k, what), k < law.size() ? law.get(k)[what] : -2);
+                Bench.due(note + " deed " + k, regatta.now().deed(0, k, what), k < day.size() ? day.get(k)[what] : -2);
+                Bench.due(note + " term " + k, regatta.now().term(0, k, what), k < law.size() ? law.get(k)[what] : -2);
             }
         }
     }
@@ -250,43 +241,43 @@ final class OracleTest {
         Oracle.Water water = lake(random, random.nextInt(8) == 0 ? 4 : 3);
         water.stiff = from(random, 0, 12);
         String note = name + " <" + water.text() + ">";
-        GraveRegatta regatta = told("lake:" + water.text());
+        Retold regatta = told("lake:" + water.text());
         int[][] costs = Oracle.costs(water, 0);
         for (int drift = 0; drift < 9; drift++) {
-            Bench.due(note + " cost " + drift, regatta.cost(0, drift / 3 - 1, drift % 3 - 1), costs[drift / 3][drift % 3]);
+            Bench.due(note + " cost " + drift, regatta.now().cost(0, drift / 3 - 1, drift % 3 - 1), costs[drift / 3][drift % 3]);
         }
         int hours = random.nextInt(13);
         Set<Integer> reach = Oracle.reach(water, costs, hours);
-        Bench.due(note + " reach " + hours, regatta.reach(0, hours, NONE, NONE), reach.size());
+        Bench.due(note + " reach " + hours, regatta.now().reach(0, hours, NONE, NONE), reach.size());
         var least = Oracle.least(water, costs, false);
         for (int k = 0; k < 20; k++) {
             int x = random.nextInt(12);
             int y = random.nextInt(12);
             boolean isCell = x < water.width && y < water.height;
             int can = reach.contains(100 * x + y) ? 1 : 0;
-            Bench.due(note + " reach " + hours + " " + x + " " + y, regatta.reach(0, hours, x, y), isCell ? can : NONE);
+            Bench.due(note + " reach " + hours + " " + x + " " + y, regatta.now().reach(0, hours, x, y), isCell ? can : NONE);
             int thrift = NONE;
             for (int bits = 0; bits < 16; bits++) {
                 int tears = least.getOrDefault(10000 * x + 100 * y + bits, NONE);
                 thrift = tears != NONE && (thrift == NONE || tears < thrift) ? tears : thrift;
             }
-            Bench.due(note + " thrift " + x + " " + y, regatta.thrift(0, x, y), thrift);
+            Bench.due(note + " thrift " + x + " " + y, regatta.now().thrift(0, x, y), thrift);
         }
-        Bench.due(note + " soon", regatta.sends(0, 0), Oracle.toTouch(water, costs, true));
-        Bench.due(note + " wept", regatta.sends(0, 1), Oracle.toTouch(water, costs, false));
-        Bench.due(note + " quiet", regatta.sends(0, 2), Oracle.quiet(water));
+        Bench.due(note + " soon", regatta.now().sends(0, 0), Oracle.toTouch(water, costs, true));
+        Bench.due(note + " wept", regatta.now().sends(0, 1), Oracle.toTouch(water, costs, false));
+        Bench.due(note + " quiet", regatta.now().sends(0, 2), Oracle.quiet(water));
         pulling(regatta, water, from(random, 1, 12), note);
     }
 
-    private static void pulling(GraveRegatta regatta, Oracle.Water water, int hours, String note) {
+    private static void pulling(Retold regatta, Oracle.Water water, int hours, String note) {
         List<Integer> resting = Oracle.resting(water, hours);
-        Bench.due(note + " rest " + hours, regatta.pull(0, hours, NONE), resting.size());
+        Bench.due(note + " rest " + hours, regatta.now().pull(0, hours, NONE), resting.size());
         for (int k = 0; k < 10; k++) {
-            Bench.due(note + " rest " + hours + " " + k, regatta.pull(0, hours, k), k < resting.size() ? resting.get(k) : -2);
+            Bench.due(note + " rest " + hours + " " + k, regatta.now().pull(0, hours, k), k < resting.size() ? resting.get(k) : -2);
         }
         for (int couple = 0; couple < 9; couple++) {
             for (int kin = 0; kin < 2; kin++) {
-                Bench.due(note + " gain " + hours + " " + couple + " " + kin, regatta.gain(0, hours, couple, kin),
+                Bench.due(note + " gain " + hours + " " + couple + " " + kin, regatta.now().gain(0, hours, couple, kin),
                         Oracle.gain(water, hours, couple, kin));
             }
         }
@@ -312,11 +303,11 @@ final class OracleTest {
         StringBuilder text = new StringBuilder();
         Oracle.lines(text, "lay", night);
         String note = name + " <" + water.text() + "> <" + text + ">";
-        GraveRegatta regatta = told("lake:" + water.text(), "night:" + text);
-        Bench.due(note + " sights", regatta.sight(0, NONE, 0), night.size());
+        Retold regatta = told("lake:" + water.text(), "night:" + text);
+        Bench.due(note + " sights", regatta.now().sight(0, NONE, 0), night.size());
         for (int k = 0; k < 9; k++) {
-            Bench.due(note + " sight x", regatta.sight(0, k, 0), k < night.size() ? night.get(k)[0] : -2);
-            Bench.due(note + " sight y", regatta.sight(0, k, 1), k < night.size() ? night.get(k)[1] : -2);
+            Bench.due(note + " sight x", regatta.now().sight(0, k, 0), k < night.size() ? night.get(k)[0] : -2);
+            Bench.due(note + " sight y", regatta.now().sight(0, k, 1), k < night.size() ? night.get(k)[1] : -2);
         }
         int fits = 0;
         int aboard = (1 << water.mourners.size()) - 1;
@@ -339,12 +330,12 @@ final class OracleTest {
         }
         int[] want = {fits, fits == 0 ? 0 : aboard, likely, later};
         for (int what = 0; what < 4; what++) {
-            Bench.due(note + " stood " + what, regatta.stood(0, 0, what), want[what]);
+            Bench.due(note + " stood " + what, regatta.now().stood(0, 0, what), want[what]);
         }
         for (int m = 0; m < 5; m++) {
             for (int place = NONE; place < 16; place++) {
                 boolean is = m < water.mourners.size() && (place == NONE || Oracle.corners(water).contains(place));
-                Bench.due(note + " corner " + m + " " + place, regatta.corner(0, 0, m, place), is ? chosen[m][place + 1] : NONE);
+                Bench.due(note + " corner " + m + " " + place, regatta.now().corner(0, 0, m, place), is ? chosen[m][place + 1] : NONE);
             }
         }
     }
@@ -365,51 +356,51 @@ final class OracleTest {
         StringBuilder text = new StringBuilder();
         Oracle.lines(text, "dead", fog);
         String note = name + " <" + text + ">";
-        GraveRegatta regatta = told("fog:" + text);
+        Retold regatta = told("fog:" + text);
         List<int[]> ways = Oracle.burials(fog);
-        Bench.due(note + " ways", regatta.lies(0, 0), ways.size());
+        Bench.due(note + " ways", regatta.now().lies(0, 0), ways.size());
         if (ways.size() < 300) {
-            Bench.due(note + " dig", regatta.lies(0, 1), Oracle.dig(fog));
+            Bench.due(note + " dig", regatta.now().lies(0, 1), Oracle.dig(fog));
         }
-        Bench.due(note + " dead", regatta.dead(0, NONE), fog.size());
+        Bench.due(note + " dead", regatta.now().dead(0, NONE), fog.size());
         for (int d = 0; d < 9; d++) {
             boolean is = d < fog.size();
             int bits = 0;
             for (int grave : is ? fog.get(d) : new int[0]) {
                 bits |= 1 << grave;
             }
-            Bench.due(note + " dead " + d, regatta.dead(0, d), is ? bits : -2);
+            Bench.due(note + " dead " + d, regatta.now().dead(0, d), is ? bits : -2);
             int may = 0;
             for (int[] way : ways) {
                 may |= is ? 1 << way[d] : 0;
             }
             int sure = Integer.bitCount(may) == 1 ? Integer.numberOfTrailingZeros(may) : NONE;
-            Bench.due(note + " sure " + d, regatta.lies(0, 10 + d), is ? sure : -2);
-            Bench.due(note + " may " + d, regatta.lies(0, 20 + d), is ? may : -2);
+            Bench.due(note + " sure " + d, regatta.now().lies(0, 10 + d), is ? sure : -2);
+            Bench.due(note + " may " + d, regatta.now().lies(0, 20 + d), is ? may : -2);
         }
     }
 
     private static void leaks(Random random, String name) {
         Oracle.Water water = lake(random, 2);
         String note = name + " <" + water.text() + ">";
-        GraveRegatta regatta = told("lake:" + water.text());
+        Retold regatta = told("lake:" + water.text());
         int hours = from(random, 1, 6);
         int[] want = water.leaks.isEmpty() ? null : Oracle.bail(water.leaks, hours);
-        Bench.due(note + " bail " + hours, regatta.bail(0, hours, NONE), want == null ? NONE : want[hours]);
+        Bench.due(note + " bail " + hours, regatta.now().bail(0, hours, NONE), want == null ? NONE : want[hours]);
         for (int k = 0; k < 8; k++) {
-            Bench.due(note + " bail " + hours + " " + k, regatta.bail(0, hours, k), want == null || k >= hours ? NONE : want[k]);
+            Bench.due(note + " bail " + hours + " " + k, regatta.now().bail(0, hours, k), want == null || k >= hours ? NONE : want[k]);
         }
     }
 
     private static void meeting(Random random, String name) {
         Oracle.Water water = lake(random, 1);
         Oracle.Water other = lake(random, 1);
-        GraveRegatta regatta = told("lake:" + water.text(), "lake:" + other.text());
+        Retold regatta = told("lake:" + water.text(), "lake:" + other.text());
         String note = name + " <" + water.text() + "> <" + other.text() + ">";
         for (int k = 0; k < 8; k++) {
             Oracle.Water a = (k & 1) == 0 ? water : other;
             Oracle.Water b = (k & 2) == 0 ? water : other;
-            Bench.due(note + " meet " + k, regatta.meet(k & 1, k >> 1 & 1, k >= 4), Oracle.meet(a, b, k >= 4));
+            Bench.due(note + " meet " + k, regatta.now().meet(k & 1, k >> 1 & 1, k >= 4), Oracle.meet(a, b, k >= 4));
         }
     }
 }
