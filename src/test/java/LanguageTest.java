@@ -10,7 +10,7 @@ import java.util.List;
 import java.util.regex.Matcher;
 import java.util.regex.Pattern;
 
-/** Rules of ../shared/LANGUAGE.md that a glance at the source can see, the face, and that calls make no objects. */
+/** Rules of ../shared/LANGUAGE.md that a glance at the source can see, the face, and how much calls make. */
 final class LanguageTest {
     private static final String[] FACE = {"again(int)", "bail(int,int,int)", "corner(int,int,int,int)", "cost(int,int,int)",
         "count(int)", "dead(int,int)", "deed(int,int,int)", "drawn(int,int,int,int)", "drift(int,int,int,int)", "end(int)",
@@ -69,9 +69,15 @@ final class LanguageTest {
     private static void source() throws Exception {
         String source = Files.readString(Path.of("src/main/java/GraveRegatta.java"));
         String code = source.replaceAll("(?s)/\\*.*?\\*/", "").replaceAll("//[^\n]*", "").replaceAll("\"[^\"\n]*\"", "\"\"");
-        for (String word : new String[] {"throw", "throws", "try", "catch", "synchronized", "assert", "import", "package",
-            "double", "float", "Exact", "Object", "hashCode", "toString", "equals", "protected", "volatile", "native"}) {
+        for (String word : new String[] {"throw", "throws", "try", "catch", "synchronized", "assert", "package", "Object",
+            "hashCode", "protected", "volatile", "native", "transient", "\\w+Exact", "Thread", "Random", "nanoTime",
+            "currentTimeMillis"}) {
             Bench.due("the word " + word, Pattern.compile("\\b" + word + "\\b").matcher(code).find(), false);
+        }
+        Matcher imports = Pattern.compile("\\bimport ([^;]*);").matcher(code);
+        while (imports.find()) {
+            boolean isListed = imports.group(1).matches("java\\.util\\.(ArrayList|List|Arrays|Iterator)");
+            Bench.due("import of " + imports.group(1), isListed, true);
         }
         Bench.due("lambda or method reference", code.contains("->") || code.contains("::"), false);
         for (char sign : source.toCharArray()) {
@@ -92,10 +98,10 @@ final class LanguageTest {
             Bench.due("lines of " + methods.group().trim().split("\n")[0],
                     methods.group(3).split("\n").length <= 60 && methods.group(2).split(",").length <= 7, true);
         }
-        Bench.due("methods seen", seen > 100, true);
+        Bench.due("methods seen", seen > 31, true);
     }
 
-    /** Calls use the rows that the constructor made. */
+    /** All calls of a run live in one room, of 7.3 million elements for 512 calls: a call makes a small part of it. */
     private static void room() {
         var threads = java.lang.management.ManagementFactory.getThreadMXBean();
         if (!(threads instanceof com.sun.management.ThreadMXBean)) {
@@ -105,15 +111,15 @@ final class LanguageTest {
         long me = Thread.currentThread().getId();
         GraveRegatta regatta = Bench.told("lake:mourner 6 1 0;mourner 5 2 1;leak 0 1;leak 3 2;grave 2 9;stiff 3;",
                 "day:stand 0 1;hours 3;", "night:lay 0 0;", "fog:dead 1 2;dead 2 3;", "law:water 3;");
-        everyCall(regatta);
+        int calls = everyCall(regatta);
         long before = counter.getThreadAllocatedBytes(me);
-        long between = counter.getThreadAllocatedBytes(me);
         everyCall(regatta);
         long after = counter.getThreadAllocatedBytes(me);
-        Bench.due("bytes made by all calls", after - between - (between - before), 0);
+        Bench.due("bytes made by " + calls + " calls: " + (after - before), after - before <= calls * 4L * 7300000 / 512, true);
     }
 
-    private static void everyCall(GraveRegatta x) {
+    /** A call of each kind: how many. */
+    private static int everyCall(GraveRegatta x) {
         x.feed(1818323813, 540090424, 989855744, 0, 0);
         x.end(9);
         x.text(0, 0);
@@ -150,5 +156,6 @@ final class LanguageTest {
         x.count(0);
         x.image(0);
         x.again(0);
+        return 36;
     }
 }
