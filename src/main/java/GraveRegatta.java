@@ -403,6 +403,11 @@ public final class GraveRegatta {
         return what >= 10 && waters.mourners.has(what - 10) ? waters.trimOf(what - 10) : NONE;
     }
 
+    /** Whether a set (bits) has a number, 0 or more, in it. */
+    private static boolean isIn(int bits, int number) {
+        return (bits >> number & 1) == 1;
+    }
+
     // ---- what is told ----
 
     /** Rows of up to three numbers each, as many as may be told. */
@@ -626,7 +631,7 @@ public final class GraveRegatta {
 
         /** Whether a lake's raft, its first cell at x, y (0 or more), is on one of this lake's rocks. */
         private boolean hasRockUnder(Lake build, int x, int y) {
-            int hull = (1 << build.columns) - 1 << x;
+            int hull = ((1 << build.columns) - 1) << x;
             for (int row = y; row < y + build.rows; row++) {
                 if (row >= 0 && row < MOST_CELLS && (rockBits[row] & hull) != 0) {
                     return true;
@@ -743,7 +748,7 @@ public final class GraveRegatta {
         /** Puts a number's four bytes behind the tape; the caller has seen that there is room. */
         void append(int number) {
             for (int shift = 24; shift >= 0 && length < TAPE; shift -= 8) {
-                tape[length] = number >>> shift & 255;
+                tape[length] = (number >>> shift) & 255;
                 length++;
             }
         }
@@ -1074,7 +1079,7 @@ public final class GraveRegatta {
         private void readFurtherGraves() {
             int bits = Word.DEAD.allows(0, numbers[0]) ? 1 << numbers[0] : 0;
             for (int k = 0; k <= length && kind == NUMBER; k++) {
-                if (!Word.DEAD.allows(0, number) || (bits >> number & 1) == 1) {
+                if (!Word.DEAD.allows(0, number) || isIn(bits, number)) {
                     note(2, from);
                 } else {
                     bits |= 1 << number;
@@ -1426,7 +1431,7 @@ public final class GraveRegatta {
                         debt += Math.abs(listAlong(0)) + Math.abs(listAlong(1)) > a ? b : 0;
                         break;
                     case 2:
-                        debt += (touched >> a & 1) == 1 ? b : 0;
+                        debt += isIn(touched, a) ? b : 0;
                         break;
                     case 3:
                         debt += a * allWater();
@@ -1539,7 +1544,7 @@ public final class GraveRegatta {
                         list += lake.mourners.number(m, 0) * (2 * choice - choices);
                     }
                 }
-                leans[axis * SETS + set % SETS] |= 1 << lake.lean(list) + 1;
+                leans[axis * SETS + set % SETS] |= 1 << (lake.lean(list) + 1);
             }
         }
 
@@ -1559,14 +1564,14 @@ public final class GraveRegatta {
         private static int tearsOf(Lake lake, int set) {
             int tears = 0;
             for (int m = 0; m < lake.mourners.size; m++) {
-                tears += (set >> m & 1) == 1 ? lake.mourners.number(m, 1) : 0;
+                tears += isIn(set, m) ? lake.mourners.number(m, 1) : 0;
             }
             return tears;
         }
 
         private void lowerPrices(int set, int tears) {
             for (int drift = 0; drift < DRIFTS; drift++) {
-                boolean isDone = (leans[set] >> drift % 3 & 1) == 1 && (leans[SETS + set] >> drift / 3 & 1) == 1;
+                boolean isDone = isIn(leans[set], drift % 3) && isIn(leans[SETS + set], drift / 3);
                 if (isDone && (prices[drift] == NONE || tears < prices[drift])) {
                     prices[drift] = tears;
                 }
@@ -1585,8 +1590,8 @@ public final class GraveRegatta {
                 int y = cell / MOST_CELLS;
                 probe.putAt(x, y);
                 int sides = probe.sides();
-                touches[cell] = sides >> lake.basics[Lake.BROTHERS] & 1
-                        | (sides >> lake.basics[Lake.BROTHERS + 1] & 1) << 1;
+                touches[cell] = isIn(sides, lake.basics[Lake.BROTHERS]) ? 1 : 0;
+                touches[cell] |= isIn(sides, lake.basics[Lake.BROTHERS + 1]) ? 2 : 0;
                 boolean isWater = lake.floats(lake, x, y);
                 for (int drift = 0; drift < DRIFTS; drift++) {
                     probe.putAt(x, y);
@@ -1923,7 +1928,7 @@ public final class GraveRegatta {
         private static void extend(int[] from, int[] to, Rows dead, int grave) {
             System.arraycopy(from, 0, to, 0, SETS);
             for (int d = 0; d < dead.size && d < GRAVES && grave != NONE; d++) {
-                if ((dead.number(d, 0) >> grave & 1) == 1) {
+                if (isIn(dead.number(d, 0), grave)) {
                     lay(from, to, d);
                 }
             }
@@ -1954,10 +1959,10 @@ public final class GraveRegatta {
 
         /** MAY of one of the DEAD. */
         int graves(Rows dead, int one) {
-            int others = setsOf(dead) - 1 ^ 1 << one;
+            int others = (setsOf(dead) - 1) ^ (1 << one);
             int bits = 0;
             for (int g = 0; g < GRAVES; g++) {
-                if ((dead.number(one, 0) >> g & 1) == 1 && waysWithout(dead, others, g) > 0) {
+                if (isIn(dead.number(one, 0), g) && waysWithout(dead, others, g) > 0) {
                     bits |= 1 << g;
                 }
             }
@@ -1993,7 +1998,7 @@ public final class GraveRegatta {
             int changed = Math.min(Integer.numberOfTrailingZeros(open), GRAVES - 1);
             for (int grave = changed; grave >= 0; grave--) {
                 int row = GRAVES - 1 - grave;
-                boolean isOpen = (open >> grave & 1) == 1;
+                boolean isOpen = isIn(open, grave);
                 extend(opened[row], opened[row + 1], dead, isOpen ? grave : NONE);
                 extend(closed[row], closed[row + 1], dead, isOpen ? NONE : grave);
             }

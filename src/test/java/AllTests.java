@@ -17,6 +17,7 @@ public final class AllTests {
         SendEdgeTest.run();
         RiddleEdgeTest.run();
         Document.check();
+        Example.run();
         System.out.println(Bench.passed + " passed, " + Bench.failed + " failed");
         if (Bench.failed != 0) {
             System.exit(1);

@@ -24,7 +24,9 @@ final class LanguageTest {
 
     static void run() throws Exception {
         face();
+        faceOfThePage();
         source();
+        library();
         room();
     }
 
@@ -66,9 +68,41 @@ final class LanguageTest {
         Bench.due("NONE", GraveRegatta.NONE, -1);
     }
 
-    private static void source() throws Exception {
+    /** FACE is what the document shows as its public face. */
+    private static void faceOfThePage() throws Exception {
+        Path page = Path.of("../shared/DOC.md");
+        if (!Files.exists(page)) {
+            return;
+        }
+        List<String> shown = new ArrayList<>();
+        Matcher lines = Pattern.compile("(?m)^ +public (?:int|boolean) (\\w+)\\((.*)\\);").matcher(Files.readString(page));
+        while (lines.find()) {
+            shown.add(lines.group(1) + "(" + lines.group(2).replaceAll(" \\w+(, |$)", ",").replaceAll(",$", "") + ")");
+        }
+        shown.sort(null);
+        Bench.due("the document's face " + shown, shown.equals(Arrays.asList(FACE)), true);
+    }
+
+    private static String source(boolean isWhole) throws Exception {
         String source = Files.readString(Path.of("src/main/java/GraveRegatta.java"));
-        String code = source.replaceAll("(?s)/\\*.*?\\*/", "").replaceAll("//[^\n]*", "").replaceAll("\"[^\"\n]*\"", "\"\"");
+        return isWhole ? source : source.replaceAll("(?s)/\\*.*?\\*/", "").replaceAll("//[^\n]*", "")
+                .replaceAll("\"[^\"\n]*\"", "\"\"");
+    }
+
+    /** What the class calls of the library, by the library's class. */
+    private static void library() throws Exception {
+        Matcher calls = Pattern.compile("\\b(System|Arrays|Math|Integer|Long|String|List|Character|Boolean|Double)\\.(\\w+)")
+                .matcher(source(false));
+        while (calls.find()) {
+            boolean isListed = calls.group().matches("System\\.arraycopy|Arrays\\.(copyOf|copyOfRange|fill)|List\\.of"
+                    + "|(Math|Integer|Long)\\.(?!random|sqrt|cbrt|pow|valueOf|parse|decode|get|to\\w*String)\\w+");
+            Bench.due("the library's " + calls.group(), isListed, true);
+        }
+    }
+
+    private static void source() throws Exception {
+        String source = source(true);
+        String code = source(false);
         for (String word : new String[] {"throw", "throws", "try", "catch", "synchronized", "assert", "package", "Object",
             "hashCode", "protected", "volatile", "native", "transient", "\\w+Exact", "Thread", "Random", "nanoTime",
             "currentTimeMillis"}) {
