@@ -246,6 +246,10 @@ final class DayEdgeTest {
         // the last of twenty rocks counts, too
         dueAt("raft 2 2;at 3 3;wreath 9;" + "rock 7 7;".repeat(19) + "rock 5 4;", "wind 1 1;hours 1;", 3, 3, 1);
         dueAt("raft 2 2;lake 12 12;at 9 10;wreath 9;rock 11 11;", "wind 1 1;hours 1;", 9, 10, 1);
+        // of several rocks in one row of cells, or in one column, each is in the way
+        for (String rocks : new String[] {"rock 5 4;rock 0 4;", "rock 0 4;rock 5 4;", "rock 5 4;rock 5 0;", "rock 5 4;rock 5 4;"}) {
+            dueAt("raft 2 2;at 3 3;wreath 9;" + rocks, "wind 1 1;hours 1;", 3, 3, 1);
+        }
     }
 
     private static void leaking() {

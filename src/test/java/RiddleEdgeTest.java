@@ -603,6 +603,10 @@ final class RiddleEdgeTest {
         dueTrim("raft 3 1;mourner 6 0 0;mourner 3 0 0;grave 2 2;", 10, 1);
         dueTrim("raft 3 1;mourner 6 0 0;mourner 3 0 0;grave 2 2;", 11, 0);
         dueTrim("raft 4 4;grave 0 30;" + "mourner 6 0 0;".repeat(5), 14, 15);
+        // on the last row, though a further one would be better still
+        dueTrim("raft 2 2;mourner 6 0 0;grave 0 30;grave 1 30;", 10, 2);
+        dueTrim("raft 2 1;mourner 6 0 0;grave 0 30;", 10, 1);
+        dueTrim("raft 1 2;mourner 6 0 0;grave 0 30;", 10, 1);
         Document.says("term 6", "of several the least.");
         dueTrim("mourner 6 0 0;", 10, 1);
         dueTrim("raft 2 2;mourner 6 0 0;", 10, 0);

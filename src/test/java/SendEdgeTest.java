@@ -145,6 +145,13 @@ final class SendEdgeTest {
         Bench.due("the wall", lake(wall + "rock 3 0;").reach(0, 12, NONE, NONE), 2);
         Bench.due("its gap", lake(wall).reach(0, 12, NONE, NONE), 5);
         Bench.due("a lake as small as the raft", lake("lake 3 2;mourner 6 0 0;").reach(0, 12, NONE, NONE), 1);
+        // drawn into the first corner: there it lies and stays
+        x = lake("raft 2 2;at 2 1;grave 0 9;");
+        Bench.due("on the way", x.reach(0, 1, 1, 0), 1);
+        for (int n = 2; n <= 12; n++) {
+            Bench.due("in the corner behind " + n, x.reach(0, n, 0, 0), 1);
+            Bench.due("nowhere else behind " + n, x.reach(0, n, NONE, NONE), 1);
+        }
     }
 
     private static void reachingByOneWay() {
@@ -209,6 +216,9 @@ final class SendEdgeTest {
         dueSends("raft 2 2;lake 6 6;at 1 3;mourner 6 9 0;brothers 2 3;", 1, 9, 0);
         dueSends("raft 2 2;lake 6 6;at 3 1;mourner 6 9 0;brothers 0 1;", 1, 9, 0);
         dueSends("raft 1 2;lake 6 6;at 3 1;mourner 6 9 0;brothers 0 2;", 5, 45, 0);
+        // from the first corner to the other two sides
+        dueSends("raft 2 2;lake 6 6;mourner 6 9 0;brothers 1 2;", 4, 36, 0);
+        dueSends("raft 2 2;lake 6 5;mourner 6 9 0;brothers 2 1;", 4, 36, 0);
         dueSends("raft 2 1;lake 6 6;at 3 1;mourner 6 9 0;brothers 0 2;", NONE, NONE, 0);
         Document.says("promise 16", "NONE: never (0, 1), there is none such, or for another what.");
         dueSends("raft 1 1;mourner 6 9 0;", NONE, NONE, 0);
@@ -370,6 +380,10 @@ final class SendEdgeTest {
         Bench.due("together to the left", x.gain(0, 3, 4, 0), 20);
         Bench.due("one alone", x.gain(0, 3, 2, 1), 0);
         Bench.due("against each other", x.gain(0, 3, 5, 1), 0);
+        // by the graves alone, all of both ashore
+        x = lake("raft 2 1;at 2 2;grave 1 6;mourner 6 9 0;mourner 6 9 1;");
+        Bench.due("the graves draw it to the right: KIN 1", x.gain(0, 3, 0, 1), 30);
+        Bench.due("the graves draw it to the right: KIN 0", x.gain(0, 3, 0, 0), -30);
         // calm, no leaks
         x = lake("raft 2 1;at 2 2;mourner 6 0 1;leak 0 9;float 1;");
         Bench.due("no leaks", x.gain(0, 4, 2, 1), 40);

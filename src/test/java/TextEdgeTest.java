@@ -285,6 +285,8 @@ final class TextEdgeTest {
         String line = word + " 1".repeat(numbers);
         if (numbers > 0) {
             Bench.dueFault(sort, word + " 1".repeat(numbers - 1) + ";", 1, line.length() - 2);
+            Bench.dueFault(sort, word + " ; 1 1;", 1, word.length() + 1);
+            Bench.dueFault(sort, word + ";" + line + ";", 1, word.length());
         }
         if (sort != FOG) {
             Bench.dueFault(sort, line + " 1;", 1, line.length() + 1);
